@@ -515,12 +515,6 @@ public final class NapVoyage {
     private static final class Naps {
         private final int[] give = {0, 1, 2, 6};
         private final int[] deep = {0, 200, 500, 800};
-        // BLIND of every deed by every OWED: plans ask for it a hundred thousand times.
-        private final int[] blind = new int[DEEDS * OWEDS];
-
-        private Naps() {
-            reckonBlind();
-        }
 
         private int changeGive(int nap, int v) {
             if (!within(nap, NAP_1, NAP_3)) {
@@ -537,7 +531,6 @@ public final class NapVoyage {
             }
             int was = deep[nap];
             deep[nap] = v;
-            reckonBlind();
             return was;
         }
 
@@ -552,18 +545,12 @@ public final class NapVoyage {
         }
 
         private int blindOf(int deed, int owed) {
-            return within(deed, 0, DEEDS - 1) && within(owed, 0, MOST_OWED) ? blind[deed * OWEDS + owed] : THOUSAND;
-        }
-
-        private void reckonBlind() {
-            for (int thing = WATCH; thing <= LIE; thing++) {
-                for (int owed = 0; owed < OWEDS; owed++) {
-                    int alone = blindAlone(thing, owed);
-                    int heard = Math.max(0, 600 - 40 * owed);
-                    blind[2 * thing * OWEDS + owed] = alone;
-                    blind[(2 * thing + 1) * OWEDS + owed] = alone * (THOUSAND - heard) / THOUSAND;
-                }
+            int alone = blindAlone(deed / 2, owed);
+            if (deed % 2 == 0) {
+                return alone;
             }
+            int heard = Math.max(0, 600 - 40 * owed);
+            return alone * (THOUSAND - heard) / THOUSAND;
         }
 
         private int blindAlone(int thing, int owed) {
@@ -580,7 +567,6 @@ public final class NapVoyage {
         private void copy(Naps from) {
             System.arraycopy(from.give, 0, give, 0, give.length);
             System.arraycopy(from.deep, 0, deep, 0, deep.length);
-            System.arraycopy(from.blind, 0, blind, 0, blind.length);
         }
     }
 
@@ -611,13 +597,13 @@ public final class NapVoyage {
         private static final int A_THING = 0, A_THING_BELLED = 1, A_DOT = 2, MISFIT = 3;
 
         private int count;
-        private final char[] signs = new char[MOST_SIGNS];
+        private final int[] signs = new int[MOST_SIGNS];
 
         private boolean write(int sign) {
             if (count >= MOST_SIGNS) {
                 return false;
             }
-            signs[count] = (char) sign;
+            signs[count] = sign;
             count++;
             return true;
         }
@@ -633,7 +619,7 @@ public final class NapVoyage {
             return wanted == A_THING ? NONE : count;
         }
 
-        private static int wantedBehind(int wanted, char sign) {
+        private static int wantedBehind(int wanted, int sign) {
             if (wanted == A_DOT) {
                 return sign == '.' ? A_THING : MISFIT;
             }
@@ -647,7 +633,7 @@ public final class NapVoyage {
             return thing == NAP_3 ? A_DOT : A_THING;
         }
 
-        private static int thingOf(char sign) {
+        private static int thingOf(int sign) {
             switch (sign) {
                 case 'w': return WATCH;
                 case '1': return NAP_1;
@@ -822,15 +808,19 @@ public final class NapVoyage {
         private final int[] passedSecond = new int[DEEDS * OWEDS];
 
         private void ready(Way way, Naps naps, int hour) {
-            for (int deed = 0; deed < DEEDS; deed++) {
-                int hourBehind = hour + hoursOf(deed / 2);
-                for (int owed = 0; owed < OWEDS; owed++) {
-                    int at = deed * OWEDS + owed;
-                    int blind = naps.blindOf(deed, owed);
-                    next[at] = hourBehind * OWEDS + naps.owedBehind(way, hour, owed, deed / 2);
-                    passed[at] = MILLION - way.shipsAt(hour) * blind;
-                    passedSecond[at] = MILLION - way.shipsAt(hour + 1) * blind;
-                }
+            for (int owed = 0; owed < OWEDS; owed++) {
+                readyFor(way, naps, hour, owed);
+            }
+        }
+
+        private void readyFor(Way way, Naps naps, int hour, int owed) {
+            for (int deed = 0; deed < DEEDS && isOwed(owed); deed++) {
+                int at = deed * OWEDS + owed;
+                int thing = deed / 2;
+                int blind = naps.blindOf(deed, owed);
+                next[at] = (hour + hoursOf(thing)) * OWEDS + naps.owedBehind(way, hour, owed, thing);
+                passed[at] = MILLION - way.shipsAt(hour) * blind;
+                passedSecond[at] = MILLION - way.shipsAt(hour + 1) * blind;
             }
         }
 
@@ -976,7 +966,7 @@ public final class NapVoyage {
             if (plane == null) {
                 return NONE;
             }
-            step.ready(way, naps, hour);
+            step.readyFor(way, naps, hour, owed);
             for (int deed = 0; deed < DEEDS; deed++) {
                 Plane rest = planeBehind(hour, battery, lies, deed);
                 if (rest != null && step.safeBy(deed, owed, rest) == plane.at(hour * OWEDS + owed)) {

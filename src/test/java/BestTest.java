@@ -7,6 +7,7 @@ public final class BestTest {
         best();
         bestOfAllRows();
         bestAnew();
+        bestOfTheLongest();
         bestRefused();
         does();
         doesTies();
@@ -67,6 +68,30 @@ public final class BestTest {
         y.nap(1, 0, 0);
         C.due("12: a NAP that gives nothing", y.best(0, 0, 10, 0, 0), 1000000);
         C.due("12: less BATTERY asked behind more", y.best(0, 1, 3, 24, 4) - y.best(0, 1, 3, 0, 0), 0);
+    }
+
+    /** 48 HOURS, all of them SQUALL but the first one. */
+    private static NapVoyage longest() {
+        return of(new int[] {0, 1, 0, 0}, new int[] {0, 24, 500, 1}, new int[] {0, 23, 500, 1});
+    }
+
+    private static void bestOfTheLongest() {
+        NapVoyage x = longest();
+        long safe = 1000000;
+        for (int hour = 47; hour >= 1; hour--) {
+            // Owing 0 in HOUR 1, 2 more in each that follows.
+            int owed = Math.min(20, 2 * (hour - 1));
+            safe = safe * (1000000 - 500 * (20 + 10 * Math.max(0, owed - 10))) / 1000000;
+        }
+        C.due("12: of 48 HOURS", x.best(0, 1, 0, 24, 4), safe);
+        C.due("12: and a NAP ahead", x.best(0, 0, 2, 24, 4), safe);
+        C.due("12: the last of them", x.best(0, 47, 10, 24, 4), 990000);
+        C.due("12: their end", x.best(0, 48, 20, 24, 4), 1000000);
+        C.due("12: behind it", x.best(0, 49, 20, 24, 4), OUTSIDE);
+        NapVoyage y = of(new int[] {0, 1, 500, 0}, new int[] {0, 1, 0, 0}, new int[] {1, 1, 0, 0}, new int[] {1, 1, 500, 0});
+        y.nap(3, 1, 10);
+        C.due("12: NAP 3, SHIPS in its first HOUR", y.best(0, 0, 0, 0, 0), 995000);
+        C.due("12: NAP 3, SHIPS in its second HOUR", y.best(1, 0, 0, 0, 0), 995000);
     }
 
     /** All rows to the end, told as LOGS and JUDGED: none is safer than BEST, and one is as safe. */
@@ -206,6 +231,12 @@ public final class BestTest {
         C.due("14: far beyond", x.logged(0, 20, 0, Integer.MAX_VALUE), NONE);
         C.due("14: of no HOURS", x.logged(1, 20, 0, -1), 0);
         C.due("14: the first of no HOURS", x.logged(1, 20, 0, 0), NONE);
+        NapVoyage z = longest();
+        C.due("14: the longest of all", z.logged(0, 20, 0, -1), 52);
+        C.due("14: its last LIE", z.logged(0, 20, 0, 3), 4);
+        C.due("14: its NAP", z.logged(0, 20, 0, 4), 2);
+        C.due("14: its last THING", z.logged(0, 20, 0, 51), 0);
+        C.due("14: behind it", z.logged(0, 20, 0, 52), NONE);
         NapVoyage y = of(new int[] {1, 4, 100, 0});
         y.nap(3, 1, 0);
         C.due("14: NAP 3 twice", y.logged(1, 5, 0, -1), 2);
@@ -269,6 +300,10 @@ public final class BestTest {
         thumbIs(x, 2, 0, "wwwwww3.wwwwwww");
         thumbIs(x, 2, 20, "wwwwww3.3.wwwww");
         thumbIs(x, 3, 0, "wwwwwwwwwwww" + "3.2");
+        NapVoyage z = of(new int[] {0, 6, 49, 0});
+        thumbIs(z, 2, 3, "w3.www");
+        thumbIs(z, 2, 4, "3.wwww");
+        thumbIs(z, 1, 8, "3.wwww");
         NapVoyage y = of(new int[] {0, 11, 40, 0}, new int[] {0, 2, 40, 0}, new int[] {0, 1, 40, 1}, new int[] {0, 12, 40, 0});
         thumbIs(y, 3, 0, "wwwwwwwwwwww" + "2w" + "3.3.w3.w3." + "ww");
         thumbIs(y, 1, 20, "3.3.3.wwwwww" + "2w" + "w3.wwwwwww" + "3.");
@@ -282,6 +317,9 @@ public final class BestTest {
         C.due("15: SAFE", x.thumb(0, 0, 0, 0), 891000);
         C.due("15: LOSES", x.thumb(0, 0, 0, 1), 980100 - 891000);
         C.due("15: what is best loses nothing", x.thumb(0, 1, 0, 1), 0);
+        x.nap(1, 1, 10);
+        // NAP 1 with the BELL would lose 2000 of 1000000 by HOUR, without it 5000, WATCH 10000.
+        C.due("15: LOSES against no BATTERY", x.thumb(0, 1, 0, 1), 990025 - 980100);
         NapVoyage y = of(new int[] {0, 1, 0, 0}, new int[] {0, 2, 500, 1});
         C.due("15: LOSES against 4 LIES and no BATTERY", y.thumb(0, 1, 20, 1), y.best(0, 0, 20, 0, 4) - y.thumb(0, 1, 20, 0));
         C.holds("15: LIES make it more", y.best(0, 0, 20, 0, 4) > y.best(0, 0, 20, 0, 0));

@@ -5,6 +5,7 @@ public final class TwoSignsDrawsTest {
 
     public static void main(String[] args) {
         two();
+        twoSleepsToNought();
         twoRefused();
         share();
         up();
@@ -52,6 +53,18 @@ public final class TwoSignsDrawsTest {
         C.due("19: owing little", y.two(1, 0, 2), safe(2000, 4000, 4000, 2000, 2000));
     }
 
+    private static void twoSleepsToNought() {
+        NapVoyage x = new NapVoyage();
+        x.leg(0, 2, 0, 0);
+        x.leg(0, 7, 0, 1);
+        x.leg(0, 1, 100, 1);
+        // By turns of 2 from 0 on: b sleeps and owes 0 behind 2 HOURS, 14 behind 7 of SQUALL.
+        C.due("19: b owes 0 at least", x.two(0, 0, 2), safe(100 * (20 + 40)));
+        C.due("19: b slept from 3", x.two(0, 3, 2), safe(100 * (20 + 40)));
+        // By turns of 1: a 0 1 0, b 0 0 1: a is the lesser one.
+        C.due("19: a owes 0 at least", x.two(0, 0, 1), safe(100 * (20 + 40)));
+    }
+
     private static void twoRefused() {
         NapVoyage x = new NapVoyage();
         x.leg(0, 4, 100, 0);
@@ -87,6 +100,14 @@ public final class TwoSignsDrawsTest {
         C.due("20: turn 4 is safest", y.two(1, 20, 4), safe(4000));
         C.due("20: turn 5 is not", y.two(1, 20, 5), safe(12000));
         C.due("20: alike, the least one", y.share(1, 0), 1);
+        // SHIPS come in HOUR 2 alone, or in HOUR 6 alone.
+        NapVoyage z = new NapVoyage();
+        z.leg(0, 2, 0, 0);
+        z.leg(0, 1, 100, 0);
+        z.leg(1, 6, 0, 0);
+        z.leg(1, 1, 100, 0);
+        C.due("20: turn 2", z.share(0, 20), 2);
+        C.due("20: turn 6", z.share(1, 20), 6);
         for (int owed = 0; owed <= 20; owed++) {
             int of = y.share(1, owed);
             for (int turn = 1; turn <= 6; turn++) {

@@ -215,6 +215,12 @@ public final class WaysTest {
         C.due("6: NAP 3 just ahead of that", x.owed(0, 1, 9, 3), 3);
         C.due("6: NAP 3 in the last two hours", x.owed(0, 5, 9, 3), 3);
         C.due("6: NAP 3 beyond the end", x.owed(0, 6, 9, 3), NO);
+        NapVoyage y = new NapVoyage();
+        y.leg(1, 1, 100, 1);
+        y.leg(1, 2, 100, 0);
+        C.due("6: a SQUALL in the first HOUR, WATCH", y.owed(1, 0, 9, 0), 11);
+        C.due("6: a SQUALL in the first HOUR, NAP 1", y.owed(1, 0, 9, 1), NO);
+        C.due("6: behind it", y.owed(1, 1, 9, 3), 3);
         C.due("6: way 2", x.owed(2, 0, 9, 0), UNKNOWN);
         C.due("6: unknown is ahead of outside", x.owed(-1, 9, 21, 5), UNKNOWN);
         C.due("6: the end is no hour", x.owed(0, 7, 9, 0), OUTSIDE);
