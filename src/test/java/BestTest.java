@@ -88,6 +88,13 @@ public final class BestTest {
         C.due("12: the last of them", x.best(0, 47, 10, 24, 4), 990000);
         C.due("12: their end", x.best(0, 48, 20, 24, 4), 1000000);
         C.due("12: behind it", x.best(0, 49, 20, 24, 4), OUTSIDE);
+        NapVoyage z = of(new int[] {0, 1, 10, 0}, new int[] {0, 1, 500, 1});
+        for (int nap = 1; nap <= 3; nap++) {
+            z.nap(nap, 0, 0);
+            z.nap(nap, 1, 1000);
+        }
+        // NAPS give nothing: owing 20, WATCH by 120 twice. Nothing else makes way.
+        C.due("12: no THINGS but those of the document", z.best(0, 0, 20, 24, 0), (1000000 - 1200) * 94L / 100);
         NapVoyage y = of(new int[] {0, 1, 500, 0}, new int[] {0, 1, 0, 0}, new int[] {1, 1, 0, 0}, new int[] {1, 1, 500, 0});
         y.nap(3, 1, 10);
         C.due("12: NAP 3, SHIPS in its first HOUR", y.best(0, 0, 0, 0, 0), 995000);

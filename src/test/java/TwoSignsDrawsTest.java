@@ -40,6 +40,9 @@ public final class TwoSignsDrawsTest {
         C.due("19: turn 6, one alone all the time", x.two(0, 12, 6), safe(4000, 5000, 6000, 7000));
         C.due("19: 20 at most", x.two(0, 20, 6), safe(12000, 12000, 12000, 12000));
         C.due("19: of no HOURS", x.two(1, 20, 6), 1000000);
+        x.thumb(0, 1, 20, 0);
+        C.due("19: no HOUR is left of what was asked before", x.two(0, 12, 1), safe(4000, 2000, 3000, 2000));
+        C.due("19: no HOUR is left, of no HOURS", x.two(1, 20, 6), 1000000);
         // A SQUALL in the midst: both owe 2 more, who owes less counts; turns go on by HOURS.
         NapVoyage y = new NapVoyage();
         y.leg(1, 1, 100, 0);
