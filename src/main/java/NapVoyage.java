@@ -200,7 +200,7 @@ public final class NapVoyage {
         if (plan == null) {
             return UNKNOWN;
         }
-        if (!isOwed(owed) || !isBattery(battery) || i < -1) {
+        if (!isOwed(owed) || !isBattery(battery)) {
             return OUTSIDE;
         }
         return plan.follow(owed, battery, i);

@@ -15,8 +15,8 @@ public final class AnyCallTest {
                 int kind = random.nextInt(25);
                 int[] n = new int[5];
                 for (int k = 0; k < n.length; k++) {
-                    int edge = random.nextInt(3) == 0 ? EDGES.length : 12;
-                    n[k] = random.nextInt(40) == 0 ? random.nextInt() : EDGES[3 + random.nextInt(edge - 3)];
+                    int edge = random.nextInt(3) == 0 ? random.nextInt(EDGES.length) : 3 + random.nextInt(9);
+                    n[k] = random.nextInt(40) == 0 ? random.nextInt() : EDGES[edge];
                 }
                 int got;
                 try {

@@ -236,7 +236,11 @@ public final class BestTest {
         }
         C.due("14: beyond", x.logged(0, 20, 0, due.length), NONE);
         C.due("14: far beyond", x.logged(0, 20, 0, Integer.MAX_VALUE), NONE);
+        // No range is told for i: a place too low has no THING, as one too high has none.
+        C.due("14: ahead of the first", x.logged(0, 20, 0, -2), NONE);
+        C.due("14: far ahead of it", x.logged(0, 20, 0, Integer.MIN_VALUE), NONE);
         C.due("14: of no HOURS", x.logged(1, 20, 0, -1), 0);
+        C.due("14: of no HOURS, ahead of the first", x.logged(1, 20, 0, -3), NONE);
         C.due("14: the first of no HOURS", x.logged(1, 20, 0, 0), NONE);
         NapVoyage z = longest();
         C.due("14: the longest of all", z.logged(0, 20, 0, -1), 52);
@@ -279,9 +283,9 @@ public final class BestTest {
         C.due("14: owed -1", x.logged(0, -1, 0, 0), OUTSIDE);
         C.due("14: battery 25", x.logged(0, 0, 25, 0), OUTSIDE);
         C.due("14: battery -1", x.logged(0, 0, -1, 0), OUTSIDE);
-        C.due("14: i -2", x.logged(0, 0, 0, -2), OUTSIDE);
-        C.due("14: i least of all", x.logged(0, 0, 0, Integer.MIN_VALUE), OUTSIDE);
         C.due("14: outside of a WAY without HOURS", x.logged(1, 21, 0, -1), OUTSIDE);
+        C.due("14: outside is ahead of none, i too low", x.logged(0, 21, 0, -2), OUTSIDE);
+        C.due("14: outside is ahead of none, i too high", x.logged(0, 0, 25, 99), OUTSIDE);
         for (int far : Checks.extremes()) {
             C.due("14: way " + far, x.logged(far, 0, 0, 0), UNKNOWN);
             C.due("14: owed " + far, x.logged(0, far, 0, 0), OUTSIDE);

@@ -289,7 +289,7 @@ final class Model {
 
     int logged(int way, int owed, int battery, int i) {
         if (!isWay(way)) return UNKNOWN;
-        if (!in(owed, 0, 20) || !in(battery, 0, 24) || i < -1) return OUTSIDE;
+        if (!in(owed, 0, 20) || !in(battery, 0, 24)) return OUTSIDE;
         List<Integer> row = new ArrayList<>();
         int hour = 0;
         int lies = 4;
@@ -302,7 +302,7 @@ final class Model {
             hour += made(d.thing);
         }
         if (i == -1) return row.size();
-        return i < row.size() ? row.get(i) : NONE;
+        return in(i, 0, row.size() - 1) ? row.get(i) : NONE;
     }
 
     int thumb(int way, int rule, int owed, int what) {

@@ -103,7 +103,7 @@ public final class RandomRunsTest {
             case 7, 8 -> alike("best " + with + e, x.best(way, hour, owed, battery, e), y.best(way, hour, owed, battery, e));
             case 9, 10 -> alike("does " + with + e, x.does(way, hour, owed, battery, e), y.does(way, hour, owed, battery, e));
             case 11 -> {
-                for (int i = -2; i <= 24; i++) {
+                for (int i = -4; i <= 24; i++) {
                     alike("logged " + with + i, x.logged(way, owed, battery, i), y.logged(way, owed, battery, i));
                 }
             }
