@@ -26,11 +26,7 @@ public final class BestTest {
     }
 
     private static NapVoyage of(int[]... legs) {
-        NapVoyage x = new NapVoyage();
-        for (int[] leg : legs) {
-            x.leg(leg[0], leg[1], leg[2], leg[3]);
-        }
-        return x;
+        return Checks.of(legs);
     }
 
     private static void best() {

@@ -37,6 +37,28 @@ final class Checks {
         write(x, log);
     }
 
+    /** A new object with LEGS, each told as its WAY, HOURS, SHIPS and SQUALL. */
+    static NapVoyage of(int[]... legs) {
+        NapVoyage x = new NapVoyage();
+        for (int[] leg : legs) {
+            x.leg(leg[0], leg[1], leg[2], leg[3]);
+        }
+        return x;
+    }
+
+    static int[] leg(int way, int hours, int ships, int squall) {
+        return new int[] {way, hours, ships, squall};
+    }
+
+    /** SAFE of a row of RISKS. */
+    static int safe(int... risks) {
+        long safe = 1000000;
+        for (int i = risks.length - 1; i >= 0; i--) {
+            safe = safe * (1000000 - risks[i]) / 1000000;
+        }
+        return (int) safe;
+    }
+
     private static final int[] EXTREMES = {Integer.MIN_VALUE, Integer.MIN_VALUE + 1, -1000000, Integer.MAX_VALUE - 1,
         Integer.MAX_VALUE, 1000001, 1 << 30, -(1 << 30)};
 

@@ -21,11 +21,7 @@ public final class TwoSignsDrawsTest {
     }
 
     private static int safe(int... risks) {
-        long safe = 1000000;
-        for (int i = risks.length - 1; i >= 0; i--) {
-            safe = safe * (1000000 - risks[i]) / 1000000;
-        }
-        return (int) safe;
+        return Checks.safe(risks);
     }
 
     private static void two() {
