@@ -497,6 +497,8 @@ public final class TwoSignsDrawsEdgesTest {
         }
         C.due("25: all is back", x.restore(1), 1);
         for (int n = 0; n < 8; n++) {
+            C.due("25: HOURS of LEG " + n, x.about(0, n, 0), 6);
+            C.due("25: first HOUR of LEG " + n, x.about(0, n, 3), 6 * n);
             C.due("25: SHIPS of LEG " + n, x.about(0, n, 1), 60 * n);
             C.due("25: SQUALL of LEG " + n, x.about(0, n, 2), n % 2);
             C.due("25: SHIPS of LEG " + n + " of WAY 1", x.about(1, n, 1), 500 - n);
